@@ -15,6 +15,7 @@ final class AirTest {
         puts();
         tears();
         unknownHours();
+        newRowsAreZero();
         cutNumbers();
         Due.end();
     }
@@ -167,6 +168,37 @@ final class AirTest {
         Due.is("torn", 23, x.unknown(0));
         Due.fails("unknown(2)", NONE_SUCH, () -> x.unknown(2));
         Due.fails("unknown(-1)", NONE_SUCH, () -> x.unknown(-1));
+    }
+
+    private static void newRowsAreZero() {
+        TravellingPictures x = new TravellingPictures();
+        Due.loan(x, "damp 0-0;", 0, 0);
+        Due.stored(x, 0, 10, 10, 0, 0);
+        x.wait(23);
+        x.room(0, 100, 0, 0, 24);
+        x.hang(0, 0);
+        x.sheet();
+        x.row(0, 3, 24);
+        x.row(0, 4, 24);
+        x.air(0, 0, 3);
+        for (int i = 0; i < 24; i++) {
+            x.put(0, 3, i, Float.floatToIntBits(5f));
+            x.put(0, 4, i, Float.floatToIntBits(5f));
+        }
+        x.wait(24);
+        Due.is("all breached", 24, x.breaches());
+        x.row(0, 3, 24);
+        x.wait(24);
+        Due.is("a new row is all 0", 24, x.breaches());
+        x.row(0, 3, 0);
+        x.wait(24);
+        Due.is("a row of none tells nothing", 24, x.unknown(0));
+        x.air(0, 0, 4);
+        x.wait(1);
+        Due.is("the row beside it stays", 25, x.breaches());
+        x.put(0, 4, 1, Float.floatToIntBits(1f / 2));
+        x.wait(1);
+        Due.is("a half is cut", 25, x.breaches());
     }
 
     /** Each number is put to a room and told by whether "damp N - N" is breached by it. */

@@ -9,6 +9,7 @@ final class LoanTest {
         highestByteFirst();
         texts();
         noTexts();
+        nothingBehindTheFirstBytes();
         wrongLoans();
         thirtyLoans();
         force();
@@ -56,6 +57,9 @@ final class LoanTest {
         fault(" -", 1);
         fault("Rest 1;", 0);
         fault("resT 1;", 0);
+        fault("xest 1;", 0);
+        fault("restz 1;", 0);
+        fault("until 1; zrest 1;", 9);
         fault("  rests 1;", 2);
         fault("res", 0);
         fault("rest", 4);
@@ -113,6 +117,17 @@ final class LoanTest {
         Due.is("no loan by '" + text + "'", 0, x.count(3));
         Due.is("an empty tape behind '" + text + "'", 0, x.count(6));
         Due.is("nothing in force behind '" + text + "'", -1, x.force(0, 0));
+    }
+
+    /** The tape goes on behind the first n bytes, but the text ends there. */
+    private static void nothingBehindTheFirstBytes() {
+        String tape = "rest 12;damp 34-56;";
+        int[] due = {0, -2, -2, -2, -6, -7, -8, -9, 0, -10, -10, -10, -14, -15, -16, -17, -18, -19, -20, 0};
+        for (int n = 0; n < due.length; n++) {
+            TravellingPictures x = new TravellingPictures();
+            Due.feed(x, tape);
+            Due.is("the first " + n + " bytes of " + tape, due[n], x.loan(n, 0, 0));
+        }
     }
 
     private static void wrongLoans() {

@@ -119,9 +119,13 @@ final class WorksTest {
         for (int i = 0; i < hours.length; i++) {
             Due.is("lead(0, " + hours[i] + ")", due[i], x.lead(0, hours[i]));
         }
+        x.work(0, 1, 1, 0, 0);
+        Due.is("made at 10: ahead", -1, x.lead(1, 9));
+        Due.is("made at 10: home", 0, x.lead(1, 10));
+        Due.is("made at 10: home later", 0, x.lead(1, 99));
         x.down(0);
         Due.is("the last line of an hour leads", 9, x.lead(0, 10));
-        Due.fails("lead(1, 0)", NONE_SUCH, () -> x.lead(1, 0));
+        Due.fails("lead(2, 0)", NONE_SUCH, () -> x.lead(2, 0));
         Due.fails("lead(-1, 0)", NONE_SUCH, () -> x.lead(-1, 0));
     }
 

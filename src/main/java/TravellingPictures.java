@@ -28,6 +28,10 @@ public final class TravellingPictures {
     private static final int TELLABLE_WORKS = 31;
     private static final int GAP = 30;
 
+    /** LANGUAGE.md lists the functions of Integer, not its constants. */
+    private static final int LEAST_INT = 0x80000000;
+    private static final int MOST_INT = 0x7fffffff;
+
     private static final int HOME = 0;
     private static final int STORE = 1;
     private static final int CRATE = 2;
@@ -396,7 +400,7 @@ public final class TravellingPictures {
         Work asked = knownWork(work);
         Loan loan = inForce(asked.lender, today());
         int open = loan == null ? (1 << CITIES) - 1 : loan.openCities();
-        int mostLight = loan == null ? Integer.MAX_VALUE : loan.leastLight();
+        int mostLight = loan == null ? MOST_INT : loan.leastLight();
         int best = 0;
         for (int set = 1; set < 1 << CITIES; set++) {
             boolean may = (set & ~open) == 0 && sumOver(set, uses) + asked.light <= mostLight;
@@ -821,7 +825,7 @@ public final class TravellingPictures {
                 return 0;
             }
             if (exponent > 30) {
-                return bits < 0 ? Integer.MIN_VALUE : Integer.MAX_VALUE;
+                return bits < 0 ? LEAST_INT : MOST_INT;
             }
             int mantissa = bits & 0x7fffff | 0x800000;
             int size = exponent > 23 ? mantissa << exponent - 23 : mantissa >> 23 - exponent;
@@ -914,7 +918,7 @@ public final class TravellingPictures {
         }
 
         int leastLight() {
-            int light = Integer.MAX_VALUE;
+            int light = MOST_INT;
             for (int i = 0; i < clauses.size(); i++) {
                 Clause clause = clauses.get(i);
                 if (clause.kind == Kind.LIGHT) {

@@ -5,6 +5,7 @@ final class HangingEdges {
 
     static void all() {
         someWorks();
+        fortyWorks();
         noSuch();
         noBits();
         chapters();
@@ -46,6 +47,23 @@ final class HangingEdges {
                 .refuses(Edge.ELEMENT, x -> x.step(0, 1 << 31))
                 .refuses(Edge.ELEMENT, x -> x.step(0, 1 << 31 | 1)).refuses(Edge.ELEMENT, x -> x.hanging(0, 1 << 31, 0))
                 .refuses(-1, x -> x.step(0, Integer.MAX_VALUE)).refuses(Edge.ELEMENT, x -> x.step(0, -1));
+    }
+
+    /** A shift by 32 is one by 0: the works behind the first 31 must not come in by the bits of the first. */
+    private static void fortyWorks() {
+        String some = "HANGING of a ROOM by some WORKS (7 at most, told by bits among the first 31)";
+        Edge forty = Edge.of(28, some).call(x -> x.room(0, 5000, 0, 0, 0));
+        for (int i = 0; i < 40; i++) {
+            int height = 1 + i;
+            forty.call(x -> x.work(0, 50, height, 0, 0));
+        }
+        for (int i = 0; i < 31; i++) {
+            bestIs(forty, 1 << i, 0, i);
+        }
+        bestIs(forty, 0x7f, 6, 0, 1, 2, 3, 4, 5, 6);
+        bestIs(forty, 1 << 30 | 0x81, 30, 0, 7, 30);
+        bestIs(forty, 0xff, -1);
+        forty.refuses(Edge.ELEMENT, x -> x.step(0, 1 << 31)).refuses(Edge.ELEMENT, x -> x.hanging(0, 1 << 31 | 1, 0));
     }
 
     private static void noSuch() {

@@ -298,6 +298,11 @@ final class LoanEdges {
         isNone(word, "rest 1; until x; light x;", 14);
         isNone(word, "  ;rest 1;", 2);
         isNone(word, "cities 0,1;", 8);
+        isNone(word, "damp 12345678901234-1;", 11);
+        isNone(word, "damp 1 1234567;", 7);
+        isNone(word, "damp 1;1234567", 6);
+        isNone(word, "cities 12345678901234 5;", 13);
+        isNone(word, "cities 5 1234567;", 7);
         String first = "(a WORD that can't, an 11th CLAUSE, a NUMBER beyond what it may be: its first byte; the end: its length)";
         isNone(first, "  foo 1;", 2);
         isNone(first, "rest 1;  untill 2;", 9);

@@ -257,8 +257,14 @@ final class RandomCallsTest {
     }
 
     private String number(int most) {
-        int way = random.nextInt(40);
-        return " " + (way == 0 ? "0000001" : way == 1 ? "" : way == 2 ? most + 1 : "" + random.nextInt(most + 1)) + blanks();
+        String digits = switch (random.nextInt(40)) {
+            case 0 -> "0000001";
+            case 1 -> "00000000000001";
+            case 2 -> "";
+            case 3 -> Integer.toString(most + 1);
+            default -> Integer.toString(random.nextInt(most + 1));
+        };
+        return " " + digits + blanks();
     }
 
     private String aClause() {
